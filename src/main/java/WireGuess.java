@@ -466,7 +466,7 @@ public final class WireGuess {
         }
 
         boolean isEdge(int tick) {
-            return tick > 0 && has(tick) && levels[tick] != levels[tick - 1];
+            return tick > 0 && tick < ticks && levels[tick] != levels[tick - 1];
         }
 
         void extend(int level, int n) {
@@ -756,6 +756,7 @@ public final class WireGuess {
         private int failure = ENDED;
         private int failedStart = NONE;
         private int margin = MOST_TICKS;
+        /** Never null: an empty one, until there is one to listen to. */
         private Wire heard = new Wire();
 
         /** Runs are marked once for all the guesses that are read behind it. */
@@ -780,9 +781,9 @@ public final class WireGuess {
                     failedStart = start;
                     return;
                 }
-                letters[frames] = letter;
-                starts[frames] = start;
-                frames++;
+                letters[k] = letter;
+                starts[k] = start;
+                frames = k + 1;
                 on = guess.tickOfBit(start, guess.bitsOfFrame() - 1);
             }
         }

@@ -13,6 +13,7 @@ public final class PromiseTest {
         take();
         aboutPlain();
         aboutGuesses();
+        aboutAllCodes();
         level();
         run();
         off();
@@ -252,6 +253,22 @@ public final class PromiseTest {
         x.send(88011, 1);
         Due.is("6: BEST by MARGIN", x.about(3), 88011);
         Due.is("6: BEST reads two", x.guess(x.about(3), 0), 2);
+    }
+
+    /** What about() tells of all the guesses is what guess() tells of them one by one. */
+    private static void aboutAllCodes() {
+        int[] senders = {15010, 168221, 48110, 77211};
+        for (int sender : senders) {
+            WireGuess x = new WireGuess();
+            x.send(sender, 86);
+            int fit = 0;
+            for (int code = 0; code <= 168999; code++) {
+                fit += x.guess(code, 1) == 1 ? 1 : 0;
+            }
+            Due.is("6: FIT, sent by " + sender, x.about(2), fit);
+            Due.is("6: LEFT, sent by " + sender, x.about(6), fit);
+            Due.is("6: the sender FITS", x.guess(sender, 1), 1);
+        }
     }
 
     private static void level() {
