@@ -93,7 +93,7 @@ public final class FaceTest {
         WireGuess x = new WireGuess();
         everyCall(x);
         long before = allocated();
-        for (int k = 0; k < 18; k++) {
+        for (int k = 0; k < 12; k++) {
             everyCall(x);
         }
         long made = allocated() - before;

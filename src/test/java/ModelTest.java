@@ -2,6 +2,9 @@ import java.util.Random;
 
 /** Long runs of calls, each answer compared with the one of the plain model. */
 public final class ModelTest {
+    /** An object is good for 512 calls; no step makes more than a hundred and twenty. */
+    private static final int LAST_STEP_FROM = 512 - 120;
+
     private static final int[] WILD = {Integer.MIN_VALUE, Integer.MAX_VALUE, -1, -2, 0, 1, 2, 3, 4,
         5, 6, 7, 9, 10, 11, 13, 14, 15, 16, 17, 98, 99, 100, 255, 256, 359, 360, 361, 999999,
         15010, 168221, 168222, 175010, -15010, 14010, 15000, 15310, 15030, 15012, 19010};
@@ -12,6 +15,7 @@ public final class ModelTest {
     private final Random random;
     private final int runNumber;
     private int home;
+    private int calls = 0;
     private boolean wild;
 
     private ModelTest(int runNumber) {
@@ -21,7 +25,7 @@ public final class ModelTest {
     }
 
     public static void main(String[] args) {
-        int runs = args.length > 0 ? Integer.parseInt(args[0]) : 60;
+        int runs = args.length > 0 ? Integer.parseInt(args[0]) : 250;
         for (int run = 0; run < runs && Due.wrongSoFar() < 20; run++) {
             new ModelTest(run).go();
         }
@@ -29,7 +33,7 @@ public final class ModelTest {
     }
 
     private void go() {
-        for (int call = 0; call < 512 && Due.wrongSoFar() < 20; call++) {
+        for (int step = 0; step < 512 && calls < LAST_STEP_FROM && Due.wrongSoFar() < 20; step++) {
             wild = random.nextInt(12) == 0;
             if (random.nextInt(60) == 0) {
                 newHome();
@@ -62,6 +66,8 @@ public final class ModelTest {
     }
 
     private void same(String call, long got, long want) {
+        calls++;
+        Due.holds("run " + runNumber + ": an object is good for 512 calls", calls <= 512);
         Due.is("run " + runNumber + ": " + call, got, want);
     }
 
@@ -141,13 +147,16 @@ public final class ModelTest {
             int times = random.nextInt(8) == 0 ? 16 : 1;
             for (int k = 0; k < times; k++) {
                 same("undo()", x.undo(), y.undo());
-                allLevels();
+                someLevels();
             }
         }
     }
 
-    private void allLevels() {
-        for (int tick = 0; tick < y.about(0); tick++) {
+    private void someLevels() {
+        int ticks = y.about(0);
+        same("about(0)", x.about(0), ticks);
+        for (int k = 0; k < 4; k++) {
+            int tick = random.nextInt(ticks + 1);
             same("level(" + tick + ")", x.level(tick), y.level(tick));
         }
     }
@@ -251,7 +260,7 @@ public final class ModelTest {
             same("keep(" + slot + ")", x.keep(slot), y.keep(slot));
         } else if (kind < 7) {
             same("again(" + slot + ")", x.again(slot), y.again(slot));
-            allLevels();
+            someLevels();
         } else {
             while (y.about(0) > 0 && random.nextInt(3) > 0) {
                 int n = Math.min(y.about(0), 120);
