@@ -189,17 +189,17 @@ public final class ChanceEdgeTest {
         Due.holds("21: it makes a difference", changes > 10);
     }
 
-    /** Of three EDGES the third alone makes it FAIL. */
+    /** The START goes with the first EDGE, comes back with the second; the others do no harm. */
     private static void onlyTheFirstN() {
         WireGuess x = Wires.of("11" + "0" + "1111" + "0" + "1" + "1");
-        int[] due = {1, 1, 1, 1};
-        int changes = 0;
-        for (int n = 0; n <= 3; n++) {
-            due[n] = flippedAtEdges("1101111011", n).guess(15010, 1);
-            changes += n > 0 && due[n] != due[n - 1] ? 1 : 0;
+        int[] due = {1, 0, 1, 1, 1};
+        for (int n = 0; n <= 4; n++) {
             chanceIs("the first " + n, x, 15010, n, 10, due[n], 1);
         }
-        Due.holds("21: one EDGE more makes a difference", changes > 0);
+        // Six flips make the START one later, and its stop is TICK 11: the seventh EDGE.
+        String levels = "1010101" + "1111" + "0" + "1";
+        chanceIs("six of eight", Wires.of(levels), 18010, 6, 10, 0, 1);
+        Due.is("21: by seven it FITS", flippedAtEdges(levels, 7).guess(18010, 1), 1);
     }
 
     /** Flipped at its first EDGE, this wire has its EDGES elsewhere; they are not asked. */
